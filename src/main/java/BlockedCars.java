@@ -76,7 +76,7 @@ public final class BlockedCars {
         yard = told;
         law.clear();
         spots.clear();
-        past.clear();
+        past.works = 0;
         imageCount = 0;
         refusedSteps = 0;
         return yard.cars;
@@ -266,8 +266,12 @@ public final class BlockedCars {
             above *= q;
             below *= 16;
         }
-        int common = commonOf(above, below);
-        return (part == 0 ? above : below) / Math.max(1, common);
+        // Below there are only twos, so no other number divides both.
+        for (int twos = 4 * many; twos > 0 && above % 2 == 0; twos--) {
+            above /= 2;
+            below /= 2;
+        }
+        return part == 0 ? above : below;
     }
 
     public int leaks(int what) throws IllegalArgumentException {
@@ -318,8 +322,8 @@ public final class BlockedCars {
         }
         Position now = past.latest();
         int bound = 0;
-        // A bound above n changes nothing: either one was moved more often, and too much is given, or none was.
-        while (bound <= n && now.levelled(cars, bound + 1) <= n) {
+        // Above n no bound is needed: if all are no more than n, none of them is.
+        while (bound < n && now.levelled(cars, bound + 1) <= n) {
             bound++;
         }
         return Math.min(bound, now.movesOf(car));
@@ -460,17 +464,6 @@ public final class BlockedCars {
         return value >= least && value <= greatest;
     }
 
-    private static int commonOf(int a, int b) {
-        int x = a;
-        int y = b;
-        while (y > 0) {
-            int rest = x % y;
-            x = y;
-            y = rest;
-        }
-        return x;
-    }
-
     private static int hasByBid(int own, int other, int v, int w) {
         if (own == other) {
             return 0;
@@ -488,7 +481,7 @@ public final class BlockedCars {
         return true;
     }
 
-    /** The TAPE, and the text that is read from it; behind a FAULT nothing more is read. */
+    /** The TAPE, and the text that is read from it, from left to right: so the first FAULT is the one that counts. */
     private static final class Reader {
         /** No number of a text may be so big; it keeps long ones from wrapping. */
         static final int BIG = 1000000;
@@ -535,7 +528,7 @@ public final class BlockedCars {
         }
 
         void skipBlanks() {
-            while (at < end && here() == ' ') {
+            while (at < end && at < tape.length && tape[at] == ' ') {
                 at++;
             }
         }
@@ -588,15 +581,12 @@ public final class BlockedCars {
             return Math.max(least, Math.min(greatest, value));
         }
 
-        /** What stands between wordFrom and at is the word then. */
+        /** What stands between wordFrom and at is the word then; with no letter there it is none that is known. */
         void readWord() {
             skipBlanks();
             wordFrom = at;
             while (at < end && here() >= 'a' && here() <= 'z') {
                 at++;
-            }
-            if (at == wordFrom) {
-                fail(CANNOT_STAND, at);
             }
         }
 
@@ -876,16 +866,14 @@ public final class BlockedCars {
         }
 
         int pairsOf(long stand) {
-            return blockedBy(stand, MOST_CARS);
+            return blockings(stand, MOST_CARS);
         }
 
-        /** How many block one that leaves sooner: each of these has to be moved before all are out. */
-        int blockersIn(long stand) {
-            return blockedBy(stand, 1);
-        }
-
-        /** For each CAR those behind it that leave sooner, counted up to a bound, in all. */
-        private int blockedBy(long stand, int bound) {
+        /**
+         * For each CAR those behind it that leave sooner, counted up to a bound, in all.
+         * By 1 these are the CARS that block one: each has to be moved before all are out.
+         */
+        int blockings(long stand, int bound) {
             int sum = 0;
             int behind = 0;
             for (int slot = Stand.SLOTS - 1; slot >= 0; slot--) {
@@ -1016,7 +1004,7 @@ public final class BlockedCars {
         }
     }
 
-    /** How long a move takes: the text's signs behind their operands, so that a row of values is enough to reckon it. */
+    /** How long a move takes: each sign behind its operands, so that a row of values is enough to reckon it. */
     private static final class Law {
         static final int FACTS = 8;
         static final int FIRST_FACT = 1000;
@@ -1388,12 +1376,6 @@ public final class BlockedCars {
         int spent;
         final int[] moves = new int[MOST_CARS];
 
-        void clear() {
-            stand = 0;
-            spent = 0;
-            Arrays.fill(moves, 0);
-        }
-
         void become(Position other) {
             stand = other.stand;
             spent = other.spent;
@@ -1435,7 +1417,7 @@ public final class BlockedCars {
         }
     }
 
-    /** What was before each WORK that can be undone, and, last, what is now. */
+    /** What was before each WORK that can be undone, and, last, what is now: so ahead of any WORK all are out. */
     private static final class Past {
         final Position[] rows = new Position[MOST_WORKS + 1];
         int works;
@@ -1444,11 +1426,6 @@ public final class BlockedCars {
             for (int i = 0; i < rows.length; i++) {
                 rows[i] = new Position();
             }
-        }
-
-        void clear() {
-            works = 0;
-            rows[0].clear();
         }
 
         Position latest() {
@@ -1505,7 +1482,6 @@ public final class BlockedCars {
             first = NONE;
             long from = goal == NONE ? yard.letOut(start) : start;
             if (isReached(from)) {
-                fewest = 0;
                 return 0;
             }
             int least = leastFrom(from);
@@ -1519,7 +1495,7 @@ public final class BlockedCars {
 
         /**
          * From near to far, least moves first: so the way that is met first has the least first move.
-         * What can't be a part of a way within the limit is cut; no way of the fewest moves is, once they are within it.
+         * What can't be a part of a way within the limit is cut: no way of the fewest moves, once they are within it.
          */
         private void spread(long from) {
             size = 0;
@@ -1582,7 +1558,7 @@ public final class BlockedCars {
         }
 
         private int leastFrom(long stand) {
-            return goal == NONE ? yard.blockersIn(stand) : Integer.bitCount(Stand.aheadOf(stand, goal));
+            return goal == NONE ? yard.blockings(stand, 1) : Integer.bitCount(Stand.aheadOf(stand, goal));
         }
 
         private void keep(long stand, int firstMove) {
