@@ -36,6 +36,18 @@ final class Check {
         }
     }
 
+    static void due(int promise, String sentence, long got, long want) {
+        due("Promise " + promise + ": " + sentence, got, want);
+    }
+
+    static void illegal(int promise, String sentence, Call call) {
+        due(promise, sentence, outcome(call), ILLEGAL);
+    }
+
+    static void noSuch(int promise, String sentence, Call call) {
+        due(promise, sentence, outcome(call), NO_SUCH);
+    }
+
     static void illegal(String what, Call call) {
         due(what, outcome(call), ILLEGAL);
     }
@@ -44,7 +56,7 @@ final class Check {
         due(what, outcome(call), NO_SUCH);
     }
 
-    private static String named(long value) {
+    static String named(long value) {
         return value == NO_SUCH ? "NoSuchElementException" : value == ILLEGAL ? "IllegalArgumentException" : "" + value;
     }
 
@@ -60,6 +72,16 @@ final class Check {
         int[] words = words(text);
         for (int i = 0; i < words.length; i += 5) {
             cars.feed(words[i], words[i + 1], words[i + 2], words[i + 3], words[i + 4]);
+        }
+    }
+
+    /** By the kind of text: y, l, w or s. */
+    static int read(BlockedCars cars, char kind, int n) {
+        switch (kind) {
+            case 'y': return cars.yard(n);
+            case 'l': return cars.law(n);
+            case 'w': return cars.work(n);
+            default: return cars.spots(n);
         }
     }
 
