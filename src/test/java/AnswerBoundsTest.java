@@ -274,6 +274,15 @@ public final class AnswerBoundsTest {
                 "park 4 0;park 1 0;park 0 1;park 2 0;park 3 0;");
         Check.due(18, "six less", more.corner(4), 6);
         Check.due(18, "nothing stays changed", more.told(2), 31);
+        // 0 leaves at once; then 2 to LANE 0 and 3 to LANE 2: a place more in LANE 0 would do for 3
+        BlockedCars other = Check.with("lane 1;lane 3;lane 2;car 1 0 0;car 1 1 0;car 1 4 0;car 2 2 0;", "park 0 0;park 1 1;park 2 2;park 3 1;");
+        Check.due(18, "both by the places that there are", other.corner(0), 0);
+        Check.due(18, "two moves less", other.corner(1), 2);
+        BlockedCars just = Check.with("lane 1;lane 2;lane 1;car 1 1 0;car 1 2 0;car 1 3 0;", "park 0 1;park 1 1;park 2 2;");
+        Check.due(18, "just the ROOM in LANE 0", just.corner(1), 1);
+        Check.due(18, "just the ROOM in LANE 0, without another", just.corner(2), 0);
+        BlockedCars full = Check.with("lane 1;lane 2;car 1 1 0;car 1 2 0;car 1 3 0;", "park 2 0;park 0 1;park 1 1;");
+        Check.due(18, "NONE: LANE 0 is full", full.corner(2), -1);
         BlockedCars nearer = Check.with("lane 3;lane 1;car 2 1 0;car 1 2 0;", "park 0 0;park 1 0;");
         Check.due(18, "those ahead of it stand nearer to the wall then", nearer.corner(0), 1);
         Check.due(18, "where they stand now they stay", nearer.car(1, 4), 2);
@@ -298,6 +307,12 @@ public final class AnswerBoundsTest {
                 goes("lane 4;lane 2;lane 1;car 1 1 0;car 1 2 0;car 2 3 0;key 0 1;key 0 2;", "park 0 0;park 2 0;park 1 0;", 0), 0);
         Check.due(19, "FRONT first: two places, then one",
                 goes("lane 4;lane 1;lane 2;car 1 1 0;car 1 2 0;car 2 3 0;key 0 1;key 0 2;", "park 0 0;park 1 0;park 2 0;", 0), 1);
+        String two = "car 1 1 0;car 1 2 0;car 1 3 0;key 0 1;";
+        Check.due(19, "from LANE 1 to LANE 0", goes("lane 1;lane 2;lane 1;" + two, "park 0 1;park 1 1;park 2 2;", 0), 1);
+        Check.due(19, "from LANE 1 to LANE 2", goes("lane 1;lane 2;lane 1;" + two, "park 0 1;park 1 1;park 2 0;", 0), 1);
+        Check.due(19, "from LANE 2 to LANE 0", goes("lane 1;lane 1;lane 2;" + two, "park 0 2;park 1 2;park 2 1;", 0), 1);
+        Check.due(19, "from LANE 2 to LANE 1", goes("lane 1;lane 1;lane 2;" + two, "park 0 2;park 1 2;park 2 0;", 0), 1);
+        Check.due(19, "not to its own LANE", goes("lane 4;lane 1;" + two, "park 0 0;park 1 0;park 2 1;", 0), 0);
         Check.due(19, "others are not moved out of the way",
                 goes("lane 2;lane 1;lane 1;car 1 1 0;car 1 2 0;car 1 3 0;car 1 4 0;key 0 1;key 0 2;key 0 3;", "park 0 0;park 1 0;park 2 1;park 3 2;", 0), 0);
     }
@@ -322,6 +337,9 @@ public final class AnswerBoundsTest {
         evening("that one is not told", "lane 2;lane 1;car 1 1 0;car 2 1 0;car 1 1 0;", 3, 0, 4);
         evening("NONE: two places of one", "lane 1;lane 1;car 2 1 0;", 1, -1, -1);
         evening("PAIRS that can't be helped", "lane 4;car 1 5 0;car 1 5 0;car 1 5 0;car 1 5 0;", 15, 6, 0);
+        evening("one PAIR", "lane 2;car 1 5 0;car 1 5 0;", 3, 1, 0);
+        evening("three PAIRS", "lane 4;car 1 5 0;car 1 6 0;car 1 7 0;", 7, 3, 0);
+        evening("one PAIR in the last LANE", "lane 1;lane 1;lane 4;car 2 5 0;car 2 5 0;", 3, 1, 10);
         evening("no PAIRS, if those who come later go first", "lane 4;car 1 5 0;car 1 4 0;car 1 3 0;car 1 2 0;", 15, 0, 0);
         evening("of alike T by numbers", "lane 2;lane 2;car 1 5 0;car 1 5 0;", 3, 0, 1);
         evening("fewest PAIRS ahead of the first LANE", "lane 3;lane 1;car 1 5 0;car 1 6 0;car 1 4 0;", 7, 0, 4);
@@ -381,6 +399,7 @@ public final class AnswerBoundsTest {
         leaks("no CARS", new BlockedCars(), "", 1, 0, 0);
         leaks("no CARS, no oil", Check.with("lane 1;"), "0 0 0;", 1, 0, 0);
         leaks("no CARS, oil", Check.with("lane 1;"), "0 0 1;", 0, -1, 0);
+        leaks("no SPOTS: both sets of one", Check.with("lane 1;car 1 1 0;", "park 0 0;"), "", 2, 0, 0);
         leaks("no SPOTS: all sets", Check.with(SIX, STAND), "", 64, 0, 0);
         leaks("all are out", Check.with(SIX), "", 64, 0, 0);
         leaks("all are out, no oil", Check.with(SIX), "0 0 0;2 3 0;", 64, 0, 0);
@@ -394,6 +413,13 @@ public final class AnswerBoundsTest {
         leaks("two places of one: one alone can't be", Check.with("lane 2;car 2 1 0;", "park 0 0;"), "0 0 1;0 1 0;", 0, -1, 0);
         leaks("two places of one: the other alone can't be", Check.with("lane 2;car 2 1 0;", "park 0 0;"), "0 0 0;0 1 1;", 0, -1, 0);
         leaks("two places of one: the second tells it", Check.with("lane 2;car 2 1 0;", "park 0 0;"), "0 1 1;", 1, 1, 1);
+        BlockedCars often = Check.with("lane 1;car 1 1 0;", "park 0 0;");
+        for (int i = 0; i < 3; i++) {
+            leaks("oil, once more", often, "0 0 1;", 1, 1, 1);
+        }
+        for (int i = 0; i < 3; i++) {
+            leaks("none, once more: the lines ahead are gone", often, "0 0 0;", 1, 0, 0);
+        }
         BlockedCars x = Check.with("lane 1;lane 1;car 1 1 0;", "park 0 0;");
         leaks("by where they stand now: ahead", x, "0 0 1;", 1, 1, 1);
         Check.work(x, "move 0 0 1;");
@@ -410,6 +436,13 @@ public final class AnswerBoundsTest {
         look("NONE: no LANES", new BlockedCars(), "", -1, -1);
         look("NONE: no LANES, but CARS", Check.with("car 1 1 0;"), "", -1, -1);
         look("NONE: all places are in lines", Check.with("lane 1;lane 1;car 1 1 0;", "park 0 1;"), "1 0 1;0 0 0;", -1, -1);
+        BlockedCars narrower = Check.with(SIX, STAND);
+        look("a wide yard", narrower, "0 0 1;", 1, 16);
+        Check.yard(narrower, "lane 2;");
+        look("a narrower one: its own places", narrower, "0 0 0;", 1, 1);
+        look("a narrower one: no other place", narrower, "0 0 0;0 1 0;", -1, -1);
+        Check.yard(narrower, "");
+        look("no yard", narrower, "", -1, -1);
         look("all places but the last", Check.with("lane 4;lane 3;lane 4;car 1 1 0;", "park 0 0;"),
                 "0 0 1;0 1 0;0 2 0;0 3 0;1 0 0;1 1 0;1 2 0;2 0 0;2 1 0;2 2 0;", 23, 1);
         look("all places but one in the midst", Check.with("lane 4;lane 3;lane 4;car 1 1 0;", "park 0 0;"),
@@ -633,27 +666,34 @@ public final class AnswerBoundsTest {
     }
 
     private static void span() {
-        BlockedCars x = Check.with("lane 2;lane 2;car 1 5 0;car 1 6 0;car 1 7 0;car 2 8 0;", "park 0 0;park 1 0;park 2 1;");
+        String yard = "lane 4;lane 2;car 1 1 0;car 1 2 0;car 1 3 0;car 1 4 0;car 2 5 0;car 1 6 0;";
+        String work = "park 0 0;park 1 0;park 2 0;park 3 0;park 5 1;";
         int[] seeds = {0, -1, -20, -19, Integer.MAX_VALUE, Integer.MAX_VALUE - 19, Integer.MAX_VALUE - 18, Integer.MIN_VALUE};
         for (int seed : seeds) {
-            for (int many : new int[] {1, 20}) {
-                BlockedCars y = Check.with("lane 2;lane 2;car 1 5 0;car 1 6 0;car 1 7 0;car 2 8 0;", "park 0 0;park 1 0;park 2 1;");
-                int fewest = Integer.MAX_VALUE;
-                int most = 0;
-                int in = 0;
-                for (int i = 0; i < many; i++) {
-                    int pairs = y.days(seed + i, 3, 9, 1);
-                    fewest = Math.min(fewest, pairs);
-                    most = Math.max(most, pairs);
-                    in += y.days(seed + i, 3, 9, 0) >> 3 & 1;
-                }
+            BlockedCars x = Check.with(yard, work);
+            BlockedCars y = Check.with(yard, work);
+            int fewest = Integer.MAX_VALUE;
+            int most = 0;
+            int in = 0;
+            for (int many = 1; many <= 20; many++) {
+                int pairs = y.days(seed + many - 1, 1, 16, 1);
+                fewest = Math.min(fewest, pairs);
+                most = Math.max(most, pairs);
+                in += y.days(seed + many - 1, 1, 16, 0) >> 4 & 1;
                 String by = many + " SEEDS: seed, seed and 1, ..: " + seed;
-                Check.due(30, by + ": the fewest PAIRS", x.span(seed, many, 3, 9, 0, 0), fewest);
-                Check.due(30, by + ": the most", x.span(seed, many, 3, 9, 1, 3), most);
-                Check.due(30, by + ": by how many a CAR is in", x.span(seed, many, 3, 9, 2, 3), in);
+                Check.due(30, by + ": the fewest PAIRS", x.span(seed, many, 1, 16, 0, 0), fewest);
+                Check.due(30, by + ": the most", x.span(seed, many, 1, 16, 1, 5), most);
+                Check.due(30, by + ": by how many a CAR is in", x.span(seed, many, 1, 16, 2, 4), in);
             }
         }
-        Check.due(30, "by all", x.span(0, 20, 60, 16, 2, 0) <= 20 ? 1 : 0, 1);
+        // by -20, -19, .. there are 6, 6, 5, 5, 2 PAIRS
+        BlockedCars few = Check.with(yard, work);
+        int[] fewest = {6, 6, 5, 5, 2, 2};
+        for (int many = 1; many <= 6; many++) {
+            Check.due(30, "the fewest PAIRS by " + many + " SEEDS", few.span(-20, many, 1, 16, 0, 0), fewest[many - 1]);
+            Check.due(30, "the most PAIRS by " + many + " SEEDS", few.span(-20, many, 1, 16, 1, 0), 6);
+        }
+        Check.due(30, "the SEED wraps: 0 PAIRS, and 2 by the next one", few.span(Integer.MAX_VALUE, 2, 1, 16, 1, 0), 2);
         BlockedCars one = Check.with("lane 1;car 1 1 0;car 2 1 0;");
         Check.due(30, "by all SEEDS it is in", one.span(5, 20, 60, 16, 2, 0), 20);
         Check.due(30, "by no SEED it is in", one.span(5, 20, 60, 16, 2, 1), 0);

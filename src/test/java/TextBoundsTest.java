@@ -212,6 +212,17 @@ public final class TextBoundsTest {
         BlockedCars x = sound('y', "5 without", "lane 1;lane 1;car 1 1 1;", 1);
         Check.work(x, "park 0 0;move 0 0 1;");
         Check.due(3, "5 without", x.told(9), 5);
+        for (String before : new String[] {"cost 40;", "cost 40;lane 9;", "cost 40"}) {
+            for (int times = 1; times <= 3; times++) {
+                BlockedCars z = new BlockedCars();
+                for (int i = 0; i < times; i++) {
+                    Check.yard(z, before);
+                }
+                Check.yard(z, "lane 1;lane 1;car 1 1 1;");
+                Check.work(z, "park 0 0;move 0 0 1;");
+                Check.due(3, "5 without, whatever was told before", z.told(9), 5);
+            }
+        }
         BlockedCars y = sound('y', "the last counts", "cost 40;lane 1;lane 1;cost 39;car 1 1 1;cost 3;", 1);
         Check.work(y, "park 0 0;move 0 0 1;");
         Check.due(3, "the last counts", y.told(9), 3);
@@ -607,10 +618,24 @@ public final class TextBoundsTest {
         faulty('y', "small letters", "Lane 1;", 1, 0);
         faulty('y', "small letters", "lAne 1;", 1, 0);
         faulty('y', "small letters: what is none ends the word", "laneA 1;", 1, 4);
+        otherLetters('y', "", " 1 1 1;", "lane", "car", "key", "cost");
+        otherLetters('l', "7 + ", "", "length", "tries", "hour", "car", "lane", "cars", "moved", "own");
+        otherLetters('l', "7 + ", "[1,2]", "least", "most");
+        otherLetters('w', "swap;", " 0 0 0;", "park", "move", "leave", "swap", "again");
         for (String word : new String[] {"lane", "car", "key", "cost"}) {
             faulty('y', "as many letters as stand there", word + "e 1;", 1, 0);
             faulty('y', "as many letters as stand there", word.substring(0, word.length() - 1) + " 1;", 1, 0);
             faulty('y', "as many letters as stand there", word.substring(1) + " 1;", 1, 0);
+        }
+    }
+
+    /** Each letter of a word, one after the other, is another one. */
+    private static void otherLetters(char kind, String ahead, String behind, String... words) {
+        for (String word : words) {
+            for (int i = 0; i < word.length(); i++) {
+                String other = word.substring(0, i) + "q" + word.substring(i + 1);
+                faulty(kind, "1 what can't stand there", ahead + other + behind, 1, ahead.length());
+            }
         }
     }
 

@@ -23,6 +23,7 @@ public final class WorkBoundsTest {
         images();
         imagesKeep();
         yardEndsAll();
+        nothingIsLeftOver();
         Check.end("WorkBoundsTest");
     }
 
@@ -126,6 +127,10 @@ public final class WorkBoundsTest {
         Check.due(9, "what was spent stays by a new LAW", x.told(3), 87);
         Check.work(x, "move 1 1 0;");
         Check.due(5, "99 at most", x.told(3), 186);
+        BlockedCars y = Check.with("lane 1;lane 1;car 1 5 1;car 1 60 9;key 0 1;", "park 1 0;");
+        Check.law(y, "hour+tries*3+car*2+length");
+        Check.work(y, "move 0 0 1;");
+        Check.due(5, "of the CAR that is moved, not of A", y.told(3), 60 + 27 + 2 + 1);
         Check.work(x, "park 0 1;leave 0;leave 0;leave 0;swap;");
         Check.due(5, "others take no SECONDS", x.told(3), 186);
         Check.due(9, "nor are they moves", x.told(4), 4);
@@ -160,6 +165,11 @@ public final class WorkBoundsTest {
         int[] due = {3, 1, 0, 2};
         for (int place = 0; place < 4; place++) {
             Check.due(5, "those of the latest T first, of alike ones by numbers", x.on(0, place), due[place]);
+        }
+        BlockedCars alike = Check.with("lane 4;car 1 1 0;car 1 5 0;car 1 5 0;car 1 5 0;", "swap;");
+        int[] byNumbers = {1, 2, 3, 0};
+        for (int place = 0; place < 4; place++) {
+            Check.due(5, "of alike ones by numbers", alike.on(0, place), byNumbers[place]);
         }
         BlockedCars y = Check.with("lane 2;lane 3;lane 3;car 1 9 0;car 1 8 0;car 1 7 0;car 1 6 0;car 1 5 0;car 1 4 0;", "swap;");
         // ROOM 2 3 3: 0 to 1; 2 2 3: 1 to 2; 2 2 2: 2 to 0; 1 2 2: 3 to 1; 1 1 2: 4 to 2; 1 1 1: 5 to 0
@@ -299,8 +309,10 @@ public final class WorkBoundsTest {
         BlockedCars v = Check.with(YARD, FULL, "leave 0;");
         Check.law(v, "77");
         Check.spots(v, "0 0 1;");
+        Check.law(v, "77+?");
         v.feed(0, 0, 0, 0, 0);
         v.undo();
+        Check.due(8, "the place of the FAULT stays", v.fault(), 3);
         Check.due(8, "the LAW stays", v.seconds(0, 0), 77);
         Check.due(8, "the SPOTS stay", v.told(6), 1);
         Check.due(8, "the TAPE stays", v.count(1), 20);
@@ -332,6 +344,8 @@ public final class WorkBoundsTest {
         Check.due(9, "0 behind restore()", x.told(7), 0);
         Check.work(x, "swap;");
         Check.due(9, "of the latest", x.told(7), 1);
+        Check.due(32, "-1: there is none", x.restore(), -1);
+        Check.due(9, "-1: nothing was restored, so it stays", x.told(7), 1);
         Check.work(x, "leave 0;");
         Check.due(9, "0 by one without any", x.told(7), 0);
         Check.work(x, "leave 0;leave 0;leave 0;");
@@ -440,5 +454,40 @@ public final class WorkBoundsTest {
         y.image();
         Check.due(1, "a YARD without CLAUSES", y.yard(0), 0);
         Facts.same(1, "as a new object", new BlockedCars(), y);
+    }
+
+    /** Texts, sound and with FAULTS, that tell what the next one does not: nothing of them is left in it. */
+    private static void nothingIsLeftOver() {
+        String rich = "lane 4;lane 4;lane 4;car 2 9 9;car 1 8 8;car 1 8 8;car 1 7 7;car 2 8 6;car 1 5 5;key 0 1;key 1 0;key 5 4;cost 40;";
+        String[] nexts = {"", "lane 1;lane 1;car 1 1 1;", "lane 3;lane 2;car 1 8 2;car 1 7 0;car 1 9 5;car 2 6 1;",
+            "lane 2;lane 2;lane 2;car 1 3 0;car 1 3 0;car 1 3 0;car 1 3 0;car 1 3 0;car 1 3 0;"};
+        for (String next : nexts) {
+            for (int before = 1; before <= 4; before++) {
+                BlockedCars x = new BlockedCars();
+                for (int i = 0; i < before; i++) {
+                    Check.yard(x, i % 3 == 2 ? rich + "lane 9;" : rich);
+                    Check.law(x, "77");
+                    Check.law(x, i % 2 == 0 ? "78" : "1+?");
+                    Check.spots(x, "0 0 1;1 1 1;2 2 1;");
+                    Check.spots(x, i % 2 == 0 ? "0 1 1;" : "0 0 1;9");
+                    Check.work(x, "swap;move 0 0 1;move 1 1 2;leave 2;swap;leave 0;");
+                    x.image();
+                    x.look(0);
+                    x.morning(0);
+                }
+                Check.yard(x, next);
+                BlockedCars fresh = Check.with(next);
+                lives(x);
+                lives(fresh);
+                Facts.same(3, "nothing of " + before + " YARDS before is left: " + next, fresh, x);
+            }
+        }
+    }
+
+    private static void lives(BlockedCars x) {
+        Check.spots(x, "0 0 0;");
+        Check.work(x, "swap;move 0 0 1;leave 0;");
+        Check.law(x, "1+?");
+        x.image();
     }
 }
